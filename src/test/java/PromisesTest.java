@@ -17,8 +17,6 @@ public final class PromisesTest {
     private static final int LEAVES = StackCompiler.LEAVES;
     private static final int MIXED = StackCompiler.MIXED;
 
-    private static String promise = "";
-
     public static void main(String[] args) {
         newObject();
         emit();
@@ -46,65 +44,34 @@ public final class PromisesTest {
     }
 
     private static void due(String what, long got, long want) {
-        Checks.due(promise + ": " + what, got, want);
+        Checks.due(what, got, want);
     }
 
     private static void due(String what, boolean got, boolean want) {
-        Checks.due(promise + ": " + what, got, want);
+        Checks.due(what, got, want);
     }
 
     private static StackCompiler program(int... code) {
         return Checks.program(code);
     }
 
-    /** A program whose run leaves something for every answer about a run to tell. */
-    private static StackCompiler afterRun() {
-        StackCompiler s = program(PUSH, 5, OUT, 0, PUSH, 6, PUSH, 7, KEEP, 3, END, 0);
-        due("run(8, 9)", s.run(8, 9), DONE);
-        dueRunThere(s, "after the run");
-        return s;
-    }
-
-    private static void dueRunThere(StackCompiler s, String when) {
-        due("outcome() " + when, s.outcome(), DONE);
-        due("outs() " + when, s.outs(), 1);
-        due("lastOut(0) " + when, s.lastOut(0), 5);
-        due("local(0) " + when, s.local(0), 8);
-        due("local(1) " + when, s.local(1), 9);
-        due("local(2) " + when, s.local(2), 0);
-        due("local(3) " + when, s.local(3), 7);
-        due("height() " + when, s.height(), 1);
-        due("cell(0) " + when, s.cell(0), 6);
-    }
-
-    private static void dueNoRun(StackCompiler s, String when) {
-        due("outcome() " + when, s.outcome(), NONE);
-        due("outs() " + when, s.outs(), 0);
-        due("height() " + when, s.height(), 0);
-        for (int i = -1; i <= 8; i++) {
-            due("lastOut(" + i + ") " + when, s.lastOut(i), 0);
-            due("local(" + i + ") " + when, s.local(i), 0);
-            due("cell(" + i + ") " + when, s.cell(i), 0);
-        }
-    }
-
     private static void newObject() {
-        promise = "1 A new object";
+        Checks.about("1 A new object");
         StackCompiler s = new StackCompiler();
         due("length()", s.length(), 0);
         due("fits()", s.fits(), false);
         due("faults(0)", s.faults(0), 0);
         due("heights(0)", s.heights(0), 0);
-        dueNoRun(s, "of a new object");
+        Checks.dueNoRun(s, "of a new object");
         due("run(1, 2)", s.run(1, 2), BAD);
-        dueNoRun(s, "after a run that was refused");
+        Checks.dueNoRun(s, "after a run that was refused");
         StackCompiler other = new StackCompiler();
         due("emit(END, 0)", s.emit(END, 0), 0);
         due("length() of another object", other.length(), 0);
     }
 
     private static void emit() {
-        promise = "2 emit";
+        Checks.about("2 emit");
         for (int op = 0; op <= 13; op++) {
             due("emit(" + op + ", 3)", new StackCompiler().emit(op, 3), 0);
             due("emit(" + op + ", 0)", new StackCompiler().emit(op, 0), 0);
@@ -129,13 +96,13 @@ public final class PromisesTest {
         due("emit(LOAD, 4) when full", s.emit(LOAD, 4), BAD);
         due("emit(KEEP, -1) when full", s.emit(KEEP, -1), BAD);
         due("length() when full", s.length(), 20);
-        s = afterRun();
+        s = Checks.afterRun();
         due("emit(END, 0)", s.emit(END, 0), 6);
-        dueNoRun(s, "after emit");
+        Checks.dueNoRun(s, "after emit");
     }
 
     private static void patch() {
-        promise = "3 patch";
+        Checks.about("3 patch");
         StackCompiler s = program(PUSH, 1, PUSH, 2, END, 0);
         due("patch(1, PUSH, 9)", s.patch(1, PUSH, 9), 1);
         due("length()", s.length(), 3);
@@ -158,9 +125,9 @@ public final class PromisesTest {
             due("patch(0, JUMP, " + n + ")", program(END, 0).patch(0, JUMP, n), 0);
         }
         due("patch(0, END, 0) of an empty program", new StackCompiler().patch(0, END, 0), BAD);
-        s = afterRun();
+        s = Checks.afterRun();
         due("patch(0, PUSH, 6)", s.patch(0, PUSH, 6), 0);
-        dueNoRun(s, "after patch");
+        Checks.dueNoRun(s, "after patch");
         s = program(END, 0);
         due("patch(0, ADD, 0)", s.patch(0, ADD, 0), 0);
         due("faults(0) after a patch that does not fit", s.faults(0), UNDER);
@@ -169,14 +136,14 @@ public final class PromisesTest {
     }
 
     private static void clear() {
-        promise = "4 clear";
-        StackCompiler s = afterRun();
+        Checks.about("4 clear");
+        StackCompiler s = Checks.afterRun();
         s.clear();
         due("length()", s.length(), 0);
         due("fits()", s.fits(), false);
         due("heights(0)", s.heights(0), 0);
         due("run(1, 2)", s.run(1, 2), BAD);
-        dueNoRun(s, "after clear");
+        Checks.dueNoRun(s, "after clear");
         due("patch(0, END, 0)", s.patch(0, END, 0), BAD);
         due("emit(JUMP, 1)", s.emit(JUMP, 1), 0);
         due("faults(0) where the cleared program went on", s.faults(0), LEAVES);
@@ -196,7 +163,7 @@ public final class PromisesTest {
     }
 
     private static void length() {
-        promise = "5 length";
+        Checks.about("5 length");
         StackCompiler s = new StackCompiler();
         for (int i = 0; i < 20; i++) {
             due("length()", s.length(), i);
@@ -213,7 +180,7 @@ public final class PromisesTest {
     }
 
     private static void fits() {
-        promise = "6 fits";
+        Checks.about("6 fits");
         due("empty", new StackCompiler().fits(), false);
         due("END", program(END, 0).fits(), true);
         due("JUMP 0", program(JUMP, 0).fits(), true);
@@ -235,7 +202,7 @@ public final class PromisesTest {
     }
 
     private static void faultsUnder() {
-        promise = "7 faults, UNDER";
+        Checks.about("7 faults, UNDER");
         int[] needs = {0, 0, 1, 2, 2, 2, 2, 1, 2, 1, 1, 1, 0, 0};
         for (int op = 0; op <= 13; op++) {
             for (int h = 0; h <= 3; h++) {
@@ -261,7 +228,7 @@ public final class PromisesTest {
     }
 
     private static void faultsOver() {
-        promise = "7 faults, OVER";
+        Checks.about("7 faults, OVER");
         for (int op = 0; op <= 13; op++) {
             for (int h = 5; h <= 6; h++) {
                 StackCompiler s = new StackCompiler();
@@ -288,7 +255,7 @@ public final class PromisesTest {
     }
 
     private static void faultsLeaves() {
-        promise = "7 faults, LEAVES";
+        Checks.about("7 faults, LEAVES");
         due("falls off the end", program(PUSH, 0).faults(0), LEAVES);
         due("END does not", program(END, 0).faults(0), 0);
         due("END does not with a number", program(END, 99).faults(0), 0);
@@ -313,7 +280,7 @@ public final class PromisesTest {
     }
 
     private static void faultsMixed() {
-        promise = "7 faults, MIXED";
+        Checks.about("7 faults, MIXED");
         StackCompiler s = program(PUSH, 0, ZERO, 3, PUSH, 1, END, 0);
         due("two ways with other heights", s.faults(3), MIXED);
         due("not before they meet", s.faults(1) | s.faults(0) | s.faults(2), 0);
@@ -333,7 +300,7 @@ public final class PromisesTest {
     }
 
     private static void faultsElsewhere() {
-        promise = "7 faults";
+        Checks.about("7 faults");
         StackCompiler s = program(PUSH, 0, JUMP, 99, ADD, 0);
         for (int p : new int[] {-1, 3, 19, 20, MIN, MAX}) {
             due("faults(" + p + ")", s.faults(p), 0);
@@ -343,7 +310,7 @@ public final class PromisesTest {
     }
 
     private static void heights() {
-        promise = "8 heights";
+        Checks.about("8 heights");
         StackCompiler s = new StackCompiler();
         for (int i = 0; i < 8; i++) {
             s.emit(PUSH, i);
@@ -375,7 +342,7 @@ public final class PromisesTest {
     }
 
     private static void run() {
-        promise = "9 run";
+        Checks.about("9 run");
         StackCompiler s = program(LOAD, 0, LOAD, 1, LOAD, 2, LOAD, 3, END, 0);
         due("run(-5, 6)", s.run(-5, 6), DONE);
         due("cell(0), local 0 at the start", s.cell(0), -5);
@@ -391,7 +358,7 @@ public final class PromisesTest {
         due("an empty program", new StackCompiler().run(0, 0), BAD);
         s = program(PUSH, 1, OUT, 0, ADD, 0, END, 0);
         due("a program that does not fit", s.run(1, 2), BAD);
-        dueNoRun(s, "after BAD");
+        Checks.dueNoRun(s, "after BAD");
         s = program(END, 0, ADD, 0);
         due("a fault where no walk comes", s.run(1, 2), DONE);
     }
@@ -405,7 +372,7 @@ public final class PromisesTest {
     }
 
     private static void runOperations() {
-        promise = "9 run, operations";
+        Checks.about("9 run, operations");
         due("7 + 5", top(ADD, 7, 5), 12);
         due("MAX + 1", top(ADD, MAX, 1), MIN);
         due("7 - 5", top(SUB, 7, 5), 2);
@@ -446,7 +413,7 @@ public final class PromisesTest {
     }
 
     private static void runTired() {
-        promise = "9 run, TIRED";
+        Checks.about("9 run, TIRED");
         // Counts local 0 down; a round carries out two turns.
         int[] rounds = {LOAD, 0, ZERO, 7, LOAD, 0, PUSH, 1, SUB, 0, KEEP, 0, JUMP, 0, END, 0};
         StackCompiler s = program(rounds);
@@ -478,7 +445,7 @@ public final class PromisesTest {
     }
 
     private static void outcome() {
-        promise = "10 outcome";
+        Checks.about("10 outcome");
         StackCompiler s = program(LOAD, 0, ZERO, 3, END, 0, JUMP, 3);
         due("before a run", s.outcome(), NONE);
         s.run(1, 0);
@@ -494,7 +461,7 @@ public final class PromisesTest {
     }
 
     private static void outs() {
-        promise = "11 outs";
+        Checks.about("11 outs");
         StackCompiler s = program(LOAD, 0, ZERO, 4, LOAD, 1, OUT, 0, END, 0);
         due("before a run", s.outs(), 0);
         s.run(0, 7);
@@ -519,7 +486,7 @@ public final class PromisesTest {
     }
 
     private static void lastOut() {
-        promise = "12 lastOut";
+        Checks.about("12 lastOut");
         for (int howMany = 0; howMany <= 9; howMany++) {
             StackCompiler s = outsOf(howMany);
             for (int k = 0; k <= 7; k++) {
@@ -544,7 +511,7 @@ public final class PromisesTest {
     }
 
     private static void local() {
-        promise = "13 local";
+        Checks.about("13 local");
         StackCompiler s = program(PUSH, 12, KEEP, 2, PUSH, 13, KEEP, 3, END, 0);
         due("local(0) before a run", s.local(0), 0);
         s.run(MIN, MAX);
@@ -562,7 +529,7 @@ public final class PromisesTest {
     }
 
     private static void height() {
-        promise = "14 height";
+        Checks.about("14 height");
         for (int h = 0; h <= 6; h++) {
             StackCompiler s = new StackCompiler();
             for (int i = 0; i < h; i++) {
@@ -576,7 +543,7 @@ public final class PromisesTest {
     }
 
     private static void cell() {
-        promise = "15 cell";
+        Checks.about("15 cell");
         StackCompiler s = program(PUSH, 50, PUSH, 51, PUSH, 52, PUSH, 53, PUSH, 54, PUSH, 55, END, 0);
         due("cell(0) before a run", s.cell(0), 0);
         s.run(0, 0);
@@ -593,30 +560,30 @@ public final class PromisesTest {
     }
 
     private static void orderAndLimits() {
-        promise = "16 Order and limits";
-        StackCompiler s = afterRun();
+        Checks.about("16 Order and limits");
+        StackCompiler s = Checks.afterRun();
         int[][] bad = {{-1, END, 0}, {6, END, 0}, {0, 14, 0}, {0, -1, 0}, {0, LOAD, 4}, {0, KEEP, -1}};
         for (int[] call : bad) {
             due("patch that answers BAD", s.patch(call[0], call[1], call[2]), BAD);
-            dueRunThere(s, "after a patch that answers BAD");
+            Checks.dueRunThere(s, "after a patch that answers BAD");
             due("length() after a patch that answers BAD", s.length(), 6);
         }
         due("run after patches that answer BAD", s.run(8, 9), DONE);
-        dueRunThere(s, "of the unchanged program");
+        Checks.dueRunThere(s, "of the unchanged program");
         due("emit(14, 0)", s.emit(14, 0), BAD);
         due("emit(LOAD, 4)", s.emit(LOAD, 4), BAD);
-        dueRunThere(s, "after an emit that answers BAD");
+        Checks.dueRunThere(s, "after an emit that answers BAD");
         for (int i = 6; i < 20; i++) {
             s.emit(END, 0);
         }
         due("run of the full program", s.run(8, 9), DONE);
         due("emit(END, 0)", s.emit(END, 0), FULL);
-        dueRunThere(s, "after an emit that answers FULL");
+        Checks.dueRunThere(s, "after an emit that answers FULL");
         due("emit(14, 0)", s.emit(14, 0), BAD);
-        dueRunThere(s, "after an emit that answers BAD when full");
+        Checks.dueRunThere(s, "after an emit that answers BAD when full");
         due("fits()", s.fits(), true);
-        dueRunThere(s, "after fits");
+        Checks.dueRunThere(s, "after fits");
         due("patch with the same instruction", s.patch(0, PUSH, 5), 0);
-        dueNoRun(s, "after a patch with the same instruction");
+        Checks.dueNoRun(s, "after a patch with the same instruction");
     }
 }
