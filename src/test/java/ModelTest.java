@@ -2,8 +2,9 @@ import java.util.ArrayList;
 import java.util.List;
 
 /**
- * Plays long fixed runs of calls on the class and on a second, slow reading of the
- * document, and compares every answer. The calls come from a fixed sequence of numbers.
+ * Plays all short programs and long fixed runs of calls on the class and on a second, slow
+ * reading of the document, and compares every answer. The calls of the long runs come from
+ * a fixed sequence of numbers.
  */
 public final class ModelTest {
     private static long seed = 20261115L;
@@ -30,6 +31,50 @@ public final class ModelTest {
     }
 
     public static void main(String[] args) {
+        everyShortProgram();
+        longRuns();
+        Checks.finish();
+    }
+
+    /** Every three instructions behind 0 .. 6 cells, with every position that a turn can go on at. */
+    private static void everyShortProgram() {
+        for (int cells = 0; cells <= 6; cells++) {
+            int choices = 12 + 2 * (cells + 5);
+            for (int program = 0; program < choices * choices * choices; program++) {
+                shortProgram(cells, choices, program);
+                if (Checks.wrongAnswers() >= 20) {
+                    return;
+                }
+            }
+        }
+    }
+
+    private static void shortProgram(int cells, int choices, int program) {
+        StackCompiler real = new StackCompiler();
+        Model model = new Model();
+        for (int i = 0; i < cells; i++) {
+            real.emit(Checks.PUSH, i % 2);
+            model.emit(Checks.PUSH, i % 2);
+        }
+        int rest = program;
+        String told = cells + " cells";
+        for (int i = 0; i < 3; i++) {
+            int choice = rest % choices;
+            rest /= choices;
+            int op = choice < 11 ? choice : choice == 11 ? Checks.END : choice % 2 == 0 ? Checks.ZERO : Checks.JUMP;
+            int n = choice < 12 ? 1 : (choice - 12) / 2 - 1;
+            told += ", " + op + " " + n;
+            real.emit(op, n);
+            model.emit(op, n);
+        }
+        compare(told, real, model);
+        if (model.fits()) {
+            Checks.due(told + ": run(7, 9)", real.run(7, 9), model.run(7, 9));
+            compare(told, real, model);
+        }
+    }
+
+    private static void longRuns() {
         int fitting = 0;
         int tired = 0;
         for (int round = 0; round < 40000 && Checks.wrongAnswers() < 20; round++) {
@@ -47,7 +92,7 @@ public final class ModelTest {
             }
             // Three times keeps an object below the 512 calls that the document allows it.
             for (int i = 0; i < 3; i++) {
-                compare(round, real, model);
+                compare("round " + round, real, model);
                 change(round, real, model);
                 int x = number();
                 int y = number();
@@ -55,12 +100,11 @@ public final class ModelTest {
                 fitting += answer == StackCompiler.BAD ? 0 : 1;
                 tired += answer == StackCompiler.TIRED ? 1 : 0;
                 Checks.due(round + ": run(" + x + ", " + y + ")", real.run(x, y), answer);
-                compare(round, real, model);
+                compare("round " + round, real, model);
             }
         }
         System.out.println(fitting + " runs of fitting programs, " + tired + " of them tired");
         Checks.due("enough runs of fitting programs", fitting > 1000 && tired > 100, true);
-        Checks.finish();
     }
 
     /** Mostly an operation that has its cells if the program is read straight on. */
@@ -99,8 +143,8 @@ public final class ModelTest {
         }
     }
 
-    private static void compare(int round, StackCompiler real, Model model) {
-        String at = round + ": ";
+    private static void compare(String told, StackCompiler real, Model model) {
+        String at = told + ": ";
         int[][] judged = model.judge();
         Checks.due(at + "length()", real.length(), model.code.size());
         Checks.due(at + "fits()", real.fits(), model.fits());

@@ -1,4 +1,4 @@
-/** A test of its own for each sentence of the document's promises that names a boundary case. */
+/** A test of its own for each sentence of the document's promises, at the boundaries it names. */
 public final class PromiseEdgesTest {
     private static final int PUSH = Checks.PUSH, LOAD = Checks.LOAD, KEEP = Checks.KEEP;
     private static final int ADD = Checks.ADD, DUP = Checks.DUP, POP = Checks.POP, OUT = Checks.OUT;
@@ -60,6 +60,8 @@ public final class PromiseEdgesTest {
         aRefusedPatchKeepsTheRun();
         aRefusedEmitKeepsTheRun();
         aPatchWithTheSameForgetsTheRun();
+        questionsChangeNothing();
+        objectsDoNotTouchEachOther();
         Checks.finish();
     }
 
@@ -568,6 +570,18 @@ public final class PromiseEdgesTest {
         due("run(0, 0)", s.run(0, 0), DONE);
         due("lastOut(0) of a run without one", s.lastOut(0), 0);
         due("lastOut(1) of a run without one", s.lastOut(1), 0);
+        s = program(LOAD, 0, OUT, 0, LOAD, 1, ZERO, 18);
+        for (int i = 0; i < 7; i++) {
+            Checks.append(s, PUSH, 30 + i, OUT, 0);
+        }
+        Checks.append(s, END, 0);
+        due("run(5, 1)", s.run(5, 1), DONE);
+        due("lastOut(7) of a run with eight", s.lastOut(7), 5);
+        due("run(6, 0)", s.run(6, 0), DONE);
+        due("lastOut(0) of a run with one", s.lastOut(0), 6);
+        for (int k = 1; k <= 7; k++) {
+            due("lastOut(" + k + ") of a run with one after a run with eight", s.lastOut(k), 0);
+        }
     }
 
     private static void lastOutIsZeroForOtherNumbers() {
@@ -722,5 +736,46 @@ public final class PromiseEdgesTest {
             due("run(8, 9)", s.run(8, 9), DONE);
             Checks.dueRunThere(s, "of the same program");
         }
+    }
+
+    /** Every question there is about an object of at most seven instructions, with its answer. */
+    private static String asked(StackCompiler s) {
+        StringBuilder told = new StringBuilder();
+        told.append(s.length()).append(' ').append(s.fits()).append(' ').append(s.outcome());
+        told.append(' ').append(s.outs()).append(' ').append(s.height());
+        for (int i = -1; i <= 8; i++) {
+            told.append(" | ").append(s.faults(i)).append(' ').append(s.heights(i)).append(' ').append(s.lastOut(i));
+            told.append(' ').append(s.local(i)).append(' ').append(s.cell(i));
+        }
+        return told.toString();
+    }
+
+    private static void questionsChangeNothing() {
+        Checks.about("Not promised: Nothing beyond the answers and state changes described above");
+        StackCompiler[] objects = {new StackCompiler(), program(PUSH, 1, JUMP, 0, ADD, 0), Checks.afterRun(),
+            afterTiredRun(), withCells(6)};
+        for (StackCompiler s : objects) {
+            String first = asked(s);
+            Checks.due("every question again: " + asked(s) + ", equal to " + first, asked(s).equals(first), true);
+        }
+        StackCompiler s = objects[2];
+        Checks.dueRunThere(s, "after every question");
+        due("run(8, 9) after every question", s.run(8, 9), DONE);
+        Checks.dueRunThere(s, "of a run after every question");
+        due("emit(END, 0) after every question", s.emit(END, 0), 6);
+        due("emit(PUSH, 0) of the new object after every question", objects[0].emit(PUSH, 0), 0);
+    }
+
+    private static void objectsDoNotTouchEachOther() {
+        Checks.about("1: A new object, beside others");
+        StackCompiler ran = Checks.afterRun();
+        StackCompiler tired = afterTiredRun();
+        StackCompiler faulty = program(ADD, 0, ADD, 0);
+        String told = asked(ran) + asked(faulty);
+        tired.emit(END, 0);
+        tired.patch(0, END, 0);
+        tired.run(1, 2);
+        tired.clear();
+        Checks.due("two objects while a third is used", told.equals(asked(ran) + asked(faulty)), true);
     }
 }

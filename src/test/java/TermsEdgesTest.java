@@ -1,4 +1,4 @@
-/** A test of its own for each sentence of the document's 'What it is' and 'Terms' that names a boundary case. */
+/** A test of its own for each sentence of the document's 'What it is' and 'Terms', at the boundaries it names. */
 public final class TermsEdgesTest {
     private static final int PUSH = Checks.PUSH, LOAD = Checks.LOAD, KEEP = Checks.KEEP;
     private static final int ADD = Checks.ADD, SUB = Checks.SUB, MUL = Checks.MUL, LESS = Checks.LESS;
@@ -656,5 +656,15 @@ public final class TermsEdgesTest {
         due("19 others", s.run(0, 0), DONE);
         due("local(3)", s.local(3), 3);
         due("height()", s.height(), 1);
+        s = program(LOAD, 0, PUSH, 1, SUB, 0, DUP, 0, SWAP, 0, KEEP, 0);
+        for (int i = 0; i < 5; i++) {
+            Checks.append(s, LOAD, 0, OUT, 0);
+        }
+        Checks.append(s, PUSH, 1, LESS, 0, ZERO, 0, END, 0);
+        due("40 rounds of 18 others and a ZERO, then END", s.run(40, 0), DONE);
+        due("outs() of 40 rounds", s.outs(), 200);
+        due("lastOut(4), of the last round", s.lastOut(4), 0);
+        due("lastOut(5), of the round before", s.lastOut(5), 1);
+        due("height()", s.height(), 0);
     }
 }
